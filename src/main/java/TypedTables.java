@@ -142,7 +142,12 @@ public final class TypedTables {
 
     public int row(int table) {
         Sheet sheet = now.sheetOf(table);
-        boolean fine = sheet != null && readsRow(sheet);
+        boolean fine = false;
+        if (sheet != null && sheet.rows >= MOST_ROWS) {
+            latest.tell(FAULT_TOO_MANY, 0, NONE, tape);
+        } else if (sheet != null) {
+            fine = reader.readLines(sheet.columns, 1);
+        }
         tape.length = 0;
         if (!fine || !sheet.takesRow(reader.cells)) {
             return NONE;
@@ -504,14 +509,6 @@ public final class TypedTables {
         return type >= BOOL && type <= TEXT && sheet.firstNotHeld(column, type) == NONE;
     }
 
-    private boolean readsRow(Sheet sheet) {
-        if (sheet.rows >= MOST_ROWS) {
-            latest.tell(FAULT_TOO_MANY, 0, NONE, tape);
-            return false;
-        }
-        return reader.readLines(sheet.columns, 1);
-    }
-
     private static int join(int one, int other) {
         if (one == other || other == EMPTY) {
             return one;
@@ -613,7 +610,7 @@ public final class TypedTables {
             if (bytes.length == 0) {
                 return EMPTY;
             }
-            if (isTrue(bytes) || isWord(bytes, "no") || isWord(bytes, "false")) {
+            if (isWord(bytes, "yes") || isWord(bytes, "no") || isWord(bytes, "true") || isWord(bytes, "false")) {
                 return BOOL;
             }
             return isDate(bytes) ? DATE : numeralKind(bytes);
@@ -621,16 +618,12 @@ public final class TypedTables {
 
         private static long numberOf(byte[] bytes, int kind) {
             switch (kind) {
-                case BOOL: return isTrue(bytes) ? 1 : 0;
+                case BOOL: return bytes[0] == 'y' || bytes[0] == 't' ? 1 : 0;
                 case INT: return numeral(bytes, 0);
                 case FIXED: return numeral(bytes, 4);
                 case DATE: return days(bytes);
                 default: return bytes.length;
             }
-        }
-
-        private static boolean isTrue(byte[] bytes) {
-            return isWord(bytes, "yes") || isWord(bytes, "true");
         }
 
         private static boolean isWord(byte[] bytes, String word) {
