@@ -15,6 +15,7 @@ public final class ModelTest {
     private final StringBuilder calls = new StringBuilder();
     private boolean wrong = false;
     private int made = 0;
+    private int headSort = 0;
 
     private ModelTest(long seed) {
         chance = new Random(seed);
@@ -25,6 +26,7 @@ public final class ModelTest {
         int failed = 0;
         for (int seed = 0; seed < runs && failed < 5; seed++) {
             ModelTest run = new ModelTest(seed);
+            run.begin(seed % 4);
             while (run.made < CALLS && !run.wrong) {
                 run.step();
             }
@@ -71,8 +73,15 @@ public final class ModelTest {
         return n <= 0 ? 0 : below(n);
     }
 
+    /** Mostly one that is there. */
     private int aTable() {
-        return about(below(2) == 0 ? 3 : 1);
+        for (int i = 0; i < 4; i++) {
+            int t = below(3);
+            if (m.table(t, 0) > 0) {
+                return below(30) == 0 ? about(3) : t;
+            }
+        }
+        return about(3);
     }
 
     private int aColumn(int table) {
@@ -100,6 +109,12 @@ public final class ModelTest {
         return below(60) == 0 ? word() : names[below(names.length)];
     }
 
+    /** The NAME of a COLUMN in a first LINE: mostly unlike those of the others. */
+    private String headWord(int column) {
+        String[][] names = {{"a", "b", "c", "d", "e", "f", "g", "h"}, {"id", "a", "b_", "x", "y", "z", "b", "twelve_chars"}};
+        return below(30) == 0 ? nameWord() : names[below(30) == 0 ? 0 : headSort][Math.min(column, 7)];
+    }
+
     private String field(String s) {
         String quote = "" + (char) m.look(1);
         boolean plain = s.indexOf(m.look(0)) < 0 && !s.contains(quote) && !s.contains("\n");
@@ -118,10 +133,10 @@ public final class ModelTest {
 
     private String line(int width, boolean names) {
         StringBuilder text = new StringBuilder();
-        int n = Math.max(1, below(12) == 0 ? below(11) : width);
-        int sort = below(5);
+        int n = Math.max(1, below(40) == 0 ? below(11) : width);
+        int sort = below(9);
         for (int c = 0; c < n; c++) {
-            String s = names ? nameWord() : sorted(sort, c);
+            String s = names ? headWord(c) : sorted(sort, c);
             text.append(c == 0 ? "" : "" + (char) m.look(0)).append(field(s));
         }
         return text.toString();
@@ -143,6 +158,7 @@ public final class ModelTest {
         StringBuilder text = new StringBuilder();
         int lines = below(10) == 0 ? below(50) : below(9);
         boolean names = m.look(2) == 1;
+        headSort = below(2);
         for (int i = 0; i < lines; i++) {
             int k = below(20);
             if (k == 0) {
@@ -180,6 +196,36 @@ public final class ModelTest {
         if (below(40) != 0) {
             tape(text);
         }
+    }
+
+    /** Some runs begin with TABLES that are there, some with one that is large. */
+    private void begin(int tables) {
+        for (int t = 0; t < tables; t++) {
+            StringBuilder text = new StringBuilder("k,b,c,d,e\n".substring(0, 2 * (1 + below(5)) - 1) + "\n");
+            int width = (text.length()) / 2;
+            int lines = below(7);
+            for (int i = 0; i < lines; i++) {
+                text.append(line(width, false)).append("\n");
+            }
+            tape(text.toString());
+            same("read(" + t + ")", x.read(t), m.read(t));
+        }
+        if (tables == 3 && below(3) == 0) {
+            large();
+        }
+    }
+
+    /** A TABLE that is not all written. */
+    private void large() {
+        String cells = "\"\"\"\"\"\"\"\"\"\"\"\"\"\"\"\"\"\"\"\"";
+        String quoted = "\"" + cells + cells + "\"";
+        tape("k,b,c,d\n" + ("1," + quoted + "," + quoted + "," + quoted + "\n").repeat(5));
+        same("read(0)", x.read(0), m.read(0));
+        tape("k,p,q,r\n" + ("1," + "r".repeat(20) + "," + "s".repeat(20) + ",\n").repeat(8));
+        same("read(1)", x.read(1), m.read(1));
+        same("joined", x.joined(0, 0, 1, 0, 2), m.joined(0, 0, 1, 0, 2));
+        same("write(2)", x.write(2), m.write(2));
+        same("sign(5999)", x.sign(5999), m.sign(5999));
     }
 
     // ---- calls
