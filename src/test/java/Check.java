@@ -35,6 +35,15 @@ final class Check {
         }
     }
 
+    /** A new object that has READ a text into each of the first TABLES. */
+    static TypedTables made(String... texts) {
+        TypedTables x = new TypedTables();
+        for (int t = 0; t < texts.length; t++) {
+            read(x, t, texts[t]);
+        }
+        return x;
+    }
+
     /** Puts a text behind the tape; each char is a byte. */
     static TypedTables tape(TypedTables x, String text) {
         int had = x.look(8);

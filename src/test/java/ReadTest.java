@@ -16,6 +16,8 @@ public final class ReadTest {
         trim();
         row();
         rowFaults();
+        endOfTape();
+        fullTable();
         Check.finish();
     }
 
@@ -78,6 +80,7 @@ public final class ReadTest {
         }
         due("feed beyond", x.feed(0, 0, 0, 0, 0), -1);
         due("look(8)", x.look(8), 800);
+        Check.due("end(800)", x.end(800), true);
         Check.due("end(801)", x.end(801), false);
         Check.due("end(-1)", x.end(-1), false);
         Check.due("end(781)", x.end(781), true);
@@ -274,6 +277,10 @@ public final class ReadTest {
         due("faults", x.look(10), 1);
         due("rows", x.table(0, 1), 6);
         due("no bytes are held", Check.row(x, 0, "a"), 7);
+        TypedTables y = read("a,b\n1,x\n", 1);
+        Check.due("type", y.type(0, 0, 2), true);
+        due("not held", Check.row(y, 0, "x,1"), -1);
+        due("held", Check.row(y, 0, "1,x"), 2);
     }
 
     private static void rowFaults() {
@@ -296,6 +303,39 @@ public final class ReadTest {
         rowFault(x, "\t", "6 0 0 0 -1");
         rowFault(x, "\n\n3,4", "6 0 0 0 -1");
         due("rows", x.table(0, 1), 40);
+    }
+
+    /** What was on the tape behind its end, or the end of all room, is not looked at. */
+    private static void endOfTape() {
+        String[] texts = {"a\n1", "a\n 1 ", "a\n\"1\"", "a\n\"1\" ", "a\n1\n#", "a\n1\n", "a\n \n1"};
+        for (String text : texts) {
+            for (String behind : new String[] {"", " ", "\"", "\n", "x", "\t", "#", ","}) {
+                TypedTables x = new TypedTables();
+                x.dialect(3, 1);
+                x.dialect(5, 35);
+                Check.tape(x, text + behind.repeat(20));
+                x.end(text.length());
+                due("read <" + text + "> ahead of <" + behind + ">", x.read(0), text.equals("a\n \n1") ? 2 : 1);
+            }
+            String most = "\n".repeat(800 - text.length()) + text;
+            due("a full tape", read(most, text.equals("a\n \n1") ? 2 : 1, 3, 1, 5, 35).look(10), 0);
+        }
+        fault("\n".repeat(797) + "a\n\"", "4 800 798 1 0");
+        fault("\n".repeat(794) + "a,b\n12", "8 800 795 2 1");
+        fault("#".repeat(800), "9 800 0 800 -1", 5, 35);
+        fault(" ".repeat(800), "7 0 0 0 0", 3, 1);
+    }
+
+    private static void fullTable() {
+        TypedTables x = read("a,b,c,d,e,f,g,h\n" + "1,2,3,4,5,6,7,8\n".repeat(40), 40);
+        due("cells", x.look(9), 320);
+        due("bytes", x.table(0, 3), 320);
+        due("last", x.value(0, 39, 7), 8);
+        due("row", Check.row(x, 0, "1"), -1);
+        due("fault", x.fault(0), 6);
+        due("read again", Check.read(x, 0, "a,b,c,d,e,f,g,h\n" + "1,2,3,4,5,6,7,8\n".repeat(39)), 39);
+        due("row", Check.row(x, 0, ",,,,,,,9"), 40);
+        due("last", x.value(0, 39, 7), 9);
     }
 
     private static void rowFault(TypedTables x, String text, String want) {

@@ -141,6 +141,8 @@ public final class TypesTest {
         Check.due("none any more", x.type(0, 0, -1), true);
         due("told", x.column(0, 0, 2), -1);
         due("type", x.column(0, 0, 0), 3);
+        Check.due("BOOL", column("yes", "").type(0, 0, 1), true);
+        Check.due("DATE", column("2024-01-01").type(0, 0, 4), true);
         Check.due("none such", x.type(0, 1, 5), false);
         Check.due("none such", x.type(0, -1, 5), false);
         Check.due("none such", x.type(1, 0, 5), false);

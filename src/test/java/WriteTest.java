@@ -14,14 +14,8 @@ public final class WriteTest {
         Check.due(call, got, want);
     }
 
-    private static TypedTables made(String text) {
-        TypedTables x = new TypedTables();
-        Check.read(x, 0, text);
-        return x;
-    }
-
     private static void plain() {
-        TypedTables x = made("\"a\",b\n\n1 ,\"2\"\n,'\n");
+        TypedTables x = Check.made("\"a\",b\n\n1 ,\"2\"\n,'\n");
         Check.due("written", Check.written(x, 0), "a,b\n1 ,2\n,'\n");
         x.dialect(2, 0);
         Check.due("without HEADER", Check.written(x, 0), "1 ,2\n,'\n");
@@ -31,15 +25,15 @@ public final class WriteTest {
         due("last", x.sign(7), 10);
         due("below", x.sign(-1), -1);
         due("first", x.sign(0), '1');
-        Check.due("a header alone", Check.written(made("a,b\n"), 0), "a,b\n");
-        TypedTables y = made("a\n");
+        Check.due("a header alone", Check.written(Check.made("a,b\n"), 0), "a,b\n");
+        TypedTables y = Check.made("a\n");
         y.dialect(2, 0);
         due("nothing at all", y.write(0), 0);
         due("nothing at all", y.sign(0), -1);
     }
 
     private static void quoted(String cell, int column, String want, int... dialect) {
-        TypedTables x = made(column < 0 ? "a\nx\n" : "a,b\nx,y\n");
+        TypedTables x = Check.made(column < 0 ? "a\nx\n" : "a,b\nx,y\n");
         int c = Math.max(0, column);
         Check.put(x, 0, 0, c, cell);
         for (int i = 0; i + 1 < dialect.length; i += 2) {
@@ -79,7 +73,7 @@ public final class WriteTest {
     }
 
     private static void views() {
-        TypedTables x = made("a,b\n1,x\n2,y\n3,z\n");
+        TypedTables x = Check.made("a,b\n1,x\n2,y\n3,z\n");
         x.order(0, 0, true);
         x.cut(0, 0, 2);
         Check.due("the top view", Check.written(x, 0), "a,b\n3,z\n2,y\n");
@@ -89,7 +83,7 @@ public final class WriteTest {
 
     /** Each LINE has 8 CELLS of 20 bytes: 168 bytes; behind the 16 of the names 35 LINES are 5880, 36 are 6048. */
     private static void room() {
-        TypedTables x = made("a,b,c,d,e,f,g,h\n");
+        TypedTables x = Check.made("a,b,c,d,e,f,g,h\n");
         String cell = "abcdefghijklmnopqrst";
         String line = (cell + ",").repeat(7) + cell;
         for (int i = 0; i < 37; i++) {
@@ -103,10 +97,28 @@ public final class WriteTest {
         due("as many whole lines", x.write(0), 35 * 168);
         x.cut(0, 35, 1);
         due("a line", x.write(0), 168 - 20 + 10);
+        exactRoom(x);
+    }
+
+    /** 35 LINES of 168 bytes and one of 120 are 6000; one of 121 is too long, and what is behind it is not written. */
+    private static void exactRoom(TypedTables x) {
+        x.back(0);
+        for (int c = 0; c < 8; c++) {
+            Check.put(x, 0, 35, c, c < 5 ? "abcdefghijklmnopqrst" : c == 5 ? "abcdefghijkl" : "");
+        }
+        due("exactly", x.write(0), 6000);
+        due("last", x.sign(5999), 10);
+        due("beyond", x.sign(6000), -1);
+        Check.put(x, 0, 35, 7, "1");
+        for (int c = 0; c < 8; c++) {
+            Check.put(x, 0, 36, c, "");
+        }
+        due("a line too long ends it", x.write(0), 35 * 168);
     }
 
     private static void nothing() {
-        TypedTables x = made("a\n1\n");
+        TypedTables x = Check.made("a\n1\n");
+        due("nothing was written", x.sign(0), -1);
         due("written", x.write(0), 4);
         due("no such table", x.write(1), -1);
         due("no such table", x.write(3), -1);
@@ -121,7 +133,7 @@ public final class WriteTest {
         for (int sep : new int[] {44, 59, 124, 9}) {
             for (int quote : new int[] {34, 39}) {
                 for (int rest = 0; rest < 8; rest++) {
-                    TypedTables x = made("a,b\n");
+                    TypedTables x = Check.made("a,b\n");
                     for (int i = 0; i < cells.length; i++) {
                         Check.row(x, 0, "x,y");
                         Check.put(x, 0, i, i % 2, cells[i]);
