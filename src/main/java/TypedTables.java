@@ -149,7 +149,7 @@ public final class TypedTables {
             fine = reader.readLines(sheet.columns, 1);
         }
         tape.length = 0;
-        if (!fine || !sheet.takesRow(reader.cells)) {
+        if (sheet == null || !fine || !sheet.takesRow(reader.cells)) {
             return NONE;
         }
         now.act(table, sheet.withRow(reader.cells));
