@@ -1,18 +1,71 @@
-/** What the tests share: texts put on the tape, texts read back, answers compared. */
-final class Check {
-    static final long NO_NUMBER = -100000000000000L;
+import java.io.IOException;
+import java.io.UncheckedIOException;
+import java.nio.file.Files;
+import java.nio.file.Path;
 
+/** What the tests share: texts put on the tape, texts read back, answers compared, the document's sentences. */
+class Check {
+    static final long NO_NUMBER = -100000000000000L;
+    /** Numbers that are no place in anything. */
+    static final int[] FAR = {-2, 100, Integer.MIN_VALUE, Integer.MAX_VALUE};
+
+    private static final Path DOCUMENT = Path.of("../shared/DOC.md");
+
+    private static String document = null;
+    private static String sentence = "";
     private static int wrong = 0;
     private static int asked = 0;
 
-    private Check() {
+    Check() {
+    }
+
+    /** The answers that follow belong to a sentence of the Terms' n-th part, which must have these words. */
+    static void term(int n, String words) {
+        belongs("==== " + n, words);
+    }
+
+    /** The answers that follow belong to a sentence of the n-th promise, which must have these words. */
+    static void promise(int n, String words) {
+        belongs("## Promise " + n + ":", words);
+    }
+
+    private static void belongs(String part, String words) {
+        sentence = part + " \"" + words + "\": ";
+        asked++;
+        if (!documentPart(part).contains(words)) {
+            wrong++;
+            System.out.println(sentence + "does not stand in the document");
+        }
+    }
+
+    /** A part of the document by how its first line begins, up to the next part, with single blanks alone. */
+    static String documentPart(String begin) {
+        int from = document().indexOf("\n" + begin);
+        if (from < 0) {
+            return "";
+        }
+        int term = document().indexOf("\n==== ", from + 1);
+        int heading = document().indexOf("\n## ", from + 1);
+        int to = term < 0 || (heading >= 0 && heading < term) ? heading : term;
+        return document().substring(from, to < 0 ? document().length() : to).replaceAll("\\s+", " ");
+    }
+
+    private static String document() {
+        if (document == null) {
+            try {
+                document = Files.readString(DOCUMENT);
+            } catch (IOException e) {
+                throw new UncheckedIOException(e);
+            }
+        }
+        return document;
     }
 
     static void due(String call, long got, long want) {
         asked++;
         if (got != want) {
             wrong++;
-            System.out.println(call + " answered " + got + ", due is " + want);
+            System.out.println(sentence + call + " answered " + got + ", due is " + want);
         }
     }
 
@@ -24,7 +77,7 @@ final class Check {
         asked++;
         if (!got.equals(want)) {
             wrong++;
-            System.out.println(call + " answered <" + got + ">, due is <" + want + ">");
+            System.out.println(sentence + call + " answered <" + got + ">, due is <" + want + ">");
         }
     }
 
@@ -33,6 +86,15 @@ final class Check {
         if (wrong != 0) {
             System.exit(1);
         }
+    }
+
+    /** A new object with some of THE DIALECT (what, v, what, v, ..). */
+    static TypedTables with(int... dialect) {
+        TypedTables x = new TypedTables();
+        for (int i = 0; i + 1 < dialect.length; i += 2) {
+            due("dialect(" + dialect[i] + ", " + dialect[i + 1] + ")", x.dialect(dialect[i], dialect[i + 1]), true);
+        }
+        return x;
     }
 
     /** A new object that has READ a text into each of the first TABLES. */
