@@ -108,10 +108,10 @@ public final class TypedTables {
     public int read(int table) {
         boolean fine = State.isPlace(table) && reader.readLines(null, MOST_ROWS);
         tape.length = 0;
-        if (!fine) {
+        Sheet sheet = fine ? reader.newSheet() : null;
+        if (sheet == null) {
             return NONE;
         }
-        Sheet sheet = reader.newSheet();
         now.act(table, sheet);
         return sheet.rows;
     }
@@ -1405,7 +1405,11 @@ public final class TypedTables {
             return true;
         }
 
+        /** The TABLE that was READ; null if no LINE told its COLUMNS. */
         Sheet newSheet() {
+            if (columns == null) {
+                return null;
+            }
             Cell[] kept = new Cell[rows * columns.length];
             for (int i = 0; i < kept.length; i++) {
                 kept[i] = cells[i];

@@ -617,6 +617,14 @@ public final class BoundsReadTest extends Check {
         tape(x, "\n9");
         due("read", x.read(0), 2);
         due("cells", cells(x, 0), "12/9");
+        for (String behind : new String[] {"\"", "\"\"", " ", "  ", ",", "3", "\n", "\t", "#"}) {
+            alone("1!2", "a,b\n1,2", behind);
+            alone("1!", "a,b\n1,", behind);
+            alone("1!2", "a,b\n1,\"2\"", behind);
+            alone("1!2", "a,b\n1,2\n", behind);
+            shortAlone("8 8 1 2 2", "a,b,c\n1,", behind);
+            shortAlone("8 9 1 3 1", "a,b,c\n\"1\"", behind);
+        }
         promise(4, "false if it has not so many, or n is below 0.");
         TypedTables y = tape(new TypedTables(), "a\n12345");
         for (int n : new int[] {8, 800, 801, -1, Integer.MIN_VALUE, Integer.MAX_VALUE}) {
@@ -625,6 +633,28 @@ public final class BoundsReadTest extends Check {
         }
         due("an empty tape", new TypedTables().end(1), false);
         due("an empty tape", new TypedTables().end(0), true);
+    }
+
+    /** What was behind the end of the tape is not READ, with TRIM or without. */
+    private static void alone(String want, String text, String behind) {
+        for (int trim = 0; trim < 2; trim++) {
+            TypedTables x = with(TRIM, trim, COMMENT, 35);
+            tape(x, text + behind);
+            due("end", x.end(text.length()), true);
+            due("read <" + text + "> without <" + behind + ">", x.read(0), 1);
+            due("cells of <" + text + "> without <" + behind + ">", cells(x, 0), want);
+        }
+    }
+
+    /** Nor does the end of a LINE that is too short come later by it. */
+    private static void shortAlone(String want, String text, String behind) {
+        for (int trim = 0; trim < 2; trim++) {
+            TypedTables x = with(TRIM, trim, COMMENT, 35);
+            tape(x, text + behind);
+            due("end", x.end(text.length()), true);
+            due("read <" + text + "> without <" + behind + ">", x.read(0), -1);
+            due("fault of <" + text + "> without <" + behind + ">", fault(x), want);
+        }
     }
 
     private static void read() {
