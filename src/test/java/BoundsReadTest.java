@@ -449,6 +449,7 @@ public final class BoundsReadTest extends Check {
         faults("6 82 41 0 -1", "a\n" + FORTY + "\"");
         faults("6 82 41 0 -1", "a\n" + FORTY + ",\t\n");
         faults("6 80 40 0 -1", FORTY + "2\n", HEADER, 0);
+        faults("6 82 41 0 -1", "a\n" + FORTY + "\t\n", SEPARATOR, 9);
         faults("6 86 43 0 -1", "a\n" + FORTY + "#x\n\n2\n", COMMENT, 35);
         TypedTables x = with(HEADER, 0);
         due("40 rows without HEADER", read(x, 0, FORTY), 40);
@@ -777,6 +778,9 @@ public final class BoundsReadTest extends Check {
         rowFaults(x, "1,2\n\n#\n3\"", "6 7 3 0 -1");
         rowFaults(x, "1,2\n,,,,,,,,", "6 4 1 0 -1");
         rowFaults(x, "1,2,3\n3,4\n", "8 3 0 3 3");
+        rowFaults(x, "1,2\n\t", "1 4 1 0 0");
+        x.dialect(SEPARATOR, 9);
+        rowFaults(x, "1\t2\n\t", "6 4 1 0 -1");
     }
 
     private static void rowRefused() {

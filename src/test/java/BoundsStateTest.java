@@ -282,6 +282,24 @@ public final class BoundsStateTest extends Check {
         due("one more", x.look(7), 1);
         due("undo", x.undo(), 0);
         due("cell", cell(x, 0, 0, 0), "1");
+        latestSixOfSeveral();
+    }
+
+    /** The latest 6 are of all TABLES together: each is undone on the TABLE that it changed. */
+    private static void latestSixOfSeveral() {
+        TypedTables x = made("a\n0\n", "b\n0\n", "c\n0\n");
+        int[] tables = {0, 1, 2, 2, 0, 1, 0, 2, 1};
+        String[] ahead = new String[tables.length];
+        for (int i = 0; i < tables.length; i++) {
+            ahead[i] = seen(x);
+            due("put", put(x, tables[i], 0, 0, "" + (i + 1)), true);
+        }
+        for (int i = tables.length - 1; i >= tables.length - 6; i--) {
+            due("undo", x.undo(), i - (tables.length - 6));
+            due("as ahead of act " + i, seen(x), ahead[i]);
+        }
+        due("none", x.undo(), -1);
+        due("as ahead of the latest 6", seen(x), ahead[tables.length - 6]);
     }
 
     private static void undoneAll() {
